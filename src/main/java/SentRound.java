@@ -541,8 +541,11 @@ public final class SentRound {
         return below > 0 ? Math.floorDiv(2 * above + below, 2 * below) : 0;
     }
 
-    /** Puts x into the first 'many' of a row that lie in order; the row has room for one more. */
+    /** Puts x into the first 'many' of a row that lie in order, if the row has room for one more. */
     private static void putInOrder(long[] row, int many, long x) {
+        if (many < 0 || many >= row.length) {
+            return;
+        }
         int at = many;
         while (at > 0 && row[at - 1] > x) {
             row[at] = row[at - 1];
@@ -727,6 +730,9 @@ public final class SentRound {
                 at++;
             }
             if (at == points[piece] || days[at] != day) {
+                if (points[piece] >= days.length) {
+                    return;
+                }
                 openPoint(piece, at, day);
             }
             pointSum[piece][at] += value;
