@@ -71,6 +71,11 @@ final class EdgesOfNumbers extends EdgeCase {
             number(x, 0, 1, -7000, 1);
             readOnce(x, 1, 0, 1, 4, 9, 16, 25, 36, 49, 64, 81, 100, 121, 144, 169);
             number(x, 1, 1, 54500, 1);
+            // here the pairs of the last house lie on both sides of the middle, so each of the 105 counts
+            readOnce(x, 2, -20000, -10000, -5000, 1, 4, 9, 16, 25, 36, 49, 64, 81, 100, 121);
+            number(x, 2, 1, 18500, 1);
+            readOnce(x, 3, -20000, 1, 4, 9, 16, 25, 36, 49, 64, 81, 100, 121, 144, 169);
+            number(x, 3, 1, 50500, 1);
             number(telling(1), 0, 1, 1, 2);
             number(telling(0, 333), 0, 1, 333, 4);
             number(telling(0, -1), 0, 1, -1, 4);
